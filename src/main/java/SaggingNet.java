@@ -503,12 +503,15 @@ public final class SaggingNet {
 
     private int bestCut(int money, int minutes, int what) {
         int many = findTreed();
+        int darkAlready = now.loadsOf(now.dark);
         int best = 0;
         int bestLoads = NONE;
         int bestCost = 0;
         for (int some = 0; some < 1 << many; some++) {
             int cost = costOf(some, many);
-            if (cost > money) {
+            // Nothing is lit while it is PLAYED: none can be better but one of less costs.
+            boolean beaten = bestLoads == darkAlready && cost >= bestCost;
+            if (cost > money || beaten) {
                 continue;
             }
             int loads = darkAfterCutting(some, many, minutes);

@@ -27,6 +27,13 @@ public final class AgainTest {
         Due.due("dark for a hundred", x.again(-1), 15000);
         Due.due("not alone", x.begins(0, false, 1), true);
         Due.due("then not at all", x.again(0), -2);
+        SaggingNet nine = new SaggingNet();
+        nine.spot(0, 100, 0);
+        for (int k = 0; k < 9; k++) {
+            nine.works(0, 1, 0);
+        }
+        nine.begins(0, true, 10);
+        Due.due("ten minutes each at first", nine.again(-1), 9000);
     }
 
     private static void noOrder() {

@@ -2,6 +2,7 @@
 public final class GoesTest {
     public static void main(String[] args) {
         islandsShed();
+        aLongIsland();
         works();
         flows();
         warmth();
@@ -54,6 +55,29 @@ public final class GoesTest {
         x.load(5, 0);
         Due.due("and no more load", x.count(10), 37);
         Due.due("still shed", x.spotIs(5, 1), 1);
+    }
+
+    /** A row of eight, told from its far end on. */
+    private static void aLongIsland() {
+        SaggingNet x = new SaggingNet();
+        for (int s = 0; s < 8; s++) {
+            x.spot(0, 1, 0);
+        }
+        for (int s = 6; s >= 0; s--) {
+            x.wire(s, s + 1, 1, 5000, 100000);
+        }
+        x.works(0, 8, 0);
+        Due.due("the lowest of all", x.spotIs(7, 3), 0);
+        for (int w = 0; w < 7; w++) {
+            Due.due("behind wire " + w, x.flow(w), 100 * (w + 1));
+        }
+        x.turn(3, false);
+        Due.due("two islands", x.spotIs(7, 3), 4);
+        Due.due("the near one", x.spotIs(3, 3), 0);
+        Due.due("its reserve", x.spotIs(3, 4), 4);
+        Due.due("four are shed", x.goes(), 4);
+        Due.due("the highest first", x.event(0, 1), 7);
+        Due.due("the lowest last", x.event(3, 1), 4);
     }
 
     private static void works() {
@@ -192,6 +216,15 @@ public final class GoesTest {
         y.tree(0, 875);
         Due.due("1000: down", y.goes(), 1);
         Due.due("it is", y.wireIs(0, 0), 3);
+        y.mend(0);
+        y.tree(0, 1);
+        y.cool(1);
+        y.turn(0, true);
+        for (int m = 1; m < 8; m++) {
+            Due.due("a tree of 1 at " + m, y.goes(), 0);
+        }
+        Due.due("not yet", y.wireIs(0, 1), 125 + 7 * 124);
+        Due.due("a tree of 1 is one", y.goes(), 1);
         SaggingNet z = ByHandTest.twoSpots();
         z.turn(0, false);
         z.tree(0, 5000);

@@ -201,6 +201,13 @@ public final class PlayedTest {
     }
 
     private static void cutOfLikeOnes() {
+        SaggingNet least = new SaggingNet();
+        least.spot(0, 0, 9);
+        least.spot(0, 30, 9);
+        least.works(0, 30, 9);
+        least.wire(0, 1, 1, 5000, 1);
+        least.tree(0, 1);
+        Due.due("a tree of 1, a room of 1", least.cut(1, 2, 0), 1);
         SaggingNet x = star(10, 20, 20);
         for (int w = 0; w < 3; w++) {
             x.tree(w, 100000);

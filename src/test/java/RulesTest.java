@@ -50,7 +50,9 @@ public final class RulesTest {
         String longest = "t([m]=0|m=0" + "&m=0".repeat(37) + ")";
         Due.due("its length", longest.length(), 160);
         Due.due("160 bytes", Due.rules(x, longest), 1);
-        Due.due("and it trips", ByHandTest.twoSpots().goes(), 0);
+        SaggingNet y = ByHandTest.twoSpots();
+        Due.rules(y, longest);
+        Due.due("it holds to its end", y.goes(), 1);
     }
 
     private static void fits(String text, int want) {
@@ -253,6 +255,7 @@ public final class RulesTest {
         trips("[0-7]%3=0-1", 3);
         trips("2*3%4=2", 3);
         trips("10-2*3-1=3", 3);
+        trips("1+1*[1+1*[1+1*[1+1*[1+1*[1+1]]]]]=1+1*[1+1*[1+1*[1+1*[1+1*[1+1]]]]]", 3);
         trips("1<1", 0);
         trips("1>1", 0);
         trips("1<2&2>1&!1=2", 3);
