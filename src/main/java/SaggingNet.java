@@ -1320,8 +1320,10 @@ public final class SaggingNet {
                     top++;
                 } else if (step == '!') {
                     so = !so;
-                } else if (step == '&' || step == '|') {
-                    next = so == (step == '|') ? with[p] : next;
+                } else if (step == '&') {
+                    next = so ? next : with[p];
+                } else if (step == '|') {
+                    next = so ? with[p] : next;
                 } else if (top < 2) {
                     return false;
                 } else {

@@ -10,7 +10,7 @@ import java.util.List;
 final class PlainNet {
     static final int NONE = -1;
 
-    static final class Spot implements Cloneable {
+    static final class Spot {
         int land, load, rank;
         boolean dark;
     }
