@@ -348,13 +348,17 @@ public final class SaggingNet {
     }
 
     public long again(int what) {
+        if (net.works == 0) {
+            return NO_ORDER;
+        }
+        // An ORDER is one of all WORKS: its places are known, whether or not one can be.
+        if (what != NONE && !net.hasWorks(what)) {
+            return NONE;
+        }
         if (!beginning.find(net, now)) {
             return NO_ORDER;
         }
-        if (what == NONE) {
-            return beginning.least[0];
-        }
-        return net.hasWorks(what) ? beginning.best[what] : NONE;
+        return what == NONE ? beginning.least[0] : beginning.best[what];
     }
 
     public boolean cost(int w, int n) {
@@ -1494,9 +1498,6 @@ public final class SaggingNet {
         private final int[] hang = new int[SPOTS];
 
         boolean find(Net net, State s) {
-            if (net.works == 0) {
-                return false;
-            }
             net.hangTogether(s, true, hang);
             int all = (1 << net.works) - 1;
             least[all] = 0;

@@ -40,12 +40,19 @@ public final class AgainTest {
         SaggingNet x = new SaggingNet();
         Due.due("no works", x.again(-1), -2);
         Due.due("no works, no place", x.again(0), -2);
+        Due.due("no works, none below either", x.again(-2), -2);
         x.spot(0, 1, 1);
         x.spot(0, 1, 1);
         x.works(0, 5, 0);
         x.works(1, 5, 0);
         x.begins(0, true, 5);
         Due.due("1 is reached by none", x.again(-1), -2);
+        Due.due("a place of none that can be", x.again(0), -2);
+        Due.due("its last place", x.again(1), -2);
+        Due.due("two have no place 2", x.again(2), -1);
+        Due.due("nor place -2", x.again(-2), -1);
+        Due.due("nor the least", x.again(Integer.MIN_VALUE), -1);
+        Due.due("nor the greatest", x.again(Integer.MAX_VALUE), -1);
         x.begins(1, true, 5);
         // 2 for 5 minutes, then 1 for 5.
         Due.due("dark", x.again(-1), 15);

@@ -1034,17 +1034,19 @@ final class PlainNet {
     private long bestDark;
 
     long again(int what) {
-        bestRow = null;
-        if (!now.works.isEmpty()) {
-            extend(new ArrayList<>(), 0, islands(now, true));
+        if (now.works.isEmpty()) {
+            return -2;
         }
+        boolean isPlace = what >= 0 && what < now.works.size();
+        if (what != NONE && !isPlace) {
+            return NONE;
+        }
+        bestRow = null;
+        extend(new ArrayList<>(), 0, islands(now, true));
         if (bestRow == null) {
             return -2;
         }
-        if (what == NONE) {
-            return bestDark;
-        }
-        return what >= 0 && what < bestRow.size() ? bestRow.get(what) : NONE;
+        return isPlace ? bestRow.get(what) : bestDark;
     }
 
     private void extend(List<Integer> row, long dark, int[] hang) {
