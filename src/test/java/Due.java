@@ -6,6 +6,16 @@ final class Due {
     private Due() {
     }
 
+    /** A call with one number in it left open. */
+    interface Answer {
+        long to(int n);
+    }
+
+    /** The same, of calls that answer true or false. */
+    interface Word {
+        boolean to(int n);
+    }
+
     static void due(String call, long got, long want) {
         asked++;
         if (got != want) {
@@ -16,6 +26,24 @@ final class Due {
 
     static void due(String call, boolean got, boolean want) {
         due(call, got ? 1L : 0L, want ? 1L : 0L);
+    }
+
+    static void each(String call, Answer answer, long want, int... numbers) {
+        for (int n : numbers) {
+            due(call + " of " + n, answer.to(n), want);
+        }
+    }
+
+    static void says(String call, Word word, boolean want, int... numbers) {
+        for (int n : numbers) {
+            due(call + " of " + n, word.to(n), want);
+        }
+    }
+
+    /** Numbers just below and above these, those that cut to fewer bits would be among them, and the farthest. */
+    static int[] outside(int low, int high) {
+        return new int[] {low - 1, high + 1, low - 256, low + (1 << 17), high - (1 << 20), low + (1 << 30),
+            Integer.MIN_VALUE, Integer.MIN_VALUE + 1, Integer.MAX_VALUE};
     }
 
     /** The tape's bytes come by twenties: what is lacking behind the text is filled up with blanks. */
