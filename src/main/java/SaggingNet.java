@@ -1105,9 +1105,10 @@ public final class SaggingNet {
             size = 0;
             at = 0;
             for (int c = 0; c <= CLAUSES; c++) {
-                if (!clause()) {
+                if (!beginClause() || !take('(') || !condition(1) || !take(')')) {
                     return fault;
                 }
+                endClause();
                 if (at == length) {
                     return clauses;
                 }
@@ -1152,7 +1153,7 @@ public final class SaggingNet {
             }
         }
 
-        private boolean clause() {
+        private boolean beginClause() {
             int sign = peek();
             if (sign != 't' && sign != 'o') {
                 return refuse(MISPLACED);
@@ -1162,13 +1163,15 @@ public final class SaggingNet {
             }
             ofWorks = sign == 'o';
             at++;
-            if (!take('(') || !condition(1) || !take(')')) {
-                return false;
-            }
-            asksWorks[clauses] = ofWorks;
-            ends[clauses] = size;
-            clauses++;
             return true;
+        }
+
+        private void endClause() {
+            if (clauses < CLAUSES) {
+                asksWorks[clauses] = ofWorks;
+                ends[clauses] = size;
+                clauses++;
+            }
         }
 
         private boolean condition(int open) {
